@@ -345,7 +345,7 @@ public final class AgainstModelTest {
     private void same(String what, Call test, Call due) {
         String got = answerOf(test);
         String want = answerOf(due);
-        if (!got.equals(want)) {
+        if (!got.equals(want) || got.contains("Exception")) {
             wrong++;
             System.out.println("run " + run + ": " + what + " answered " + got + ", due is " + want);
         }
