@@ -50,6 +50,10 @@ public final class AnswersTest {
         DUE.same("but not at ease", 0, x.ahead(200, 3, 0));
         x = Due.told(text + "law ease 1;");
         DUE.same("best", 663, x.ahead(5, 3, 0));
+        x = Due.told("knight k 49 0;knight l 99 0;tub t 10 50;sit l t 0;law cool 0;");
+        DUE.same("stood of a knight beyond the tubs", 9, x.ahead(9, 2, 1));
+        DUE.same("best of a knight beyond the tubs", 500, x.ahead(9, 3, 1));
+        DUE.same("as many minutes as may be", 200, x.ahead(200, 2, 1));
     }
 
     private static void cools() {
@@ -137,6 +141,10 @@ public final class AnswersTest {
         DUE.same("no more than 999 litres", -2, x.addFor(0, (heat + 1) / 10));
         x = Due.told("tub t 10 50;tub u 10 50;");
         DUE.same("coal in sum", 6, x.coal(60));
+        // 7 of 0 and 2 of 990 are of 220.
+        x = Due.told("tub t 7 0;");
+        DUE.same("just as hot", 2, x.addFor(0, 22));
+        DUE.same("hotter than that", 3, x.addFor(0, 23));
     }
 
     private static void together() {
@@ -178,6 +186,10 @@ public final class AnswersTest {
         matched("knight a 99 1;knight b 99 2;knight c 99 3;tub t 9 10;tub u 9 20;tub v 9 30;"
             + "law ease rank=1 and heat<25 or rank=2 and heat=20 or rank=3 and heat>15;",
             0, 1, 2, -2, -2, -2, 3, 600);
+        // Six and six: knight by knight the only tub that leaves the later ones theirs.
+        matched("knight a 60 0;knight b 50 0;knight c 40 0;knight d 30 0;knight e 20 0;knight f 10 0;"
+            + "tub a 9 10;tub b 9 20;tub c 9 30;tub d 9 40;tub e 9 50;tub f 9 60;",
+            5, 4, 3, 2, 1, 0, 6, 2100);
         BathOrders x = Due.told("knight a 90 0;knight b 90 0;tub t 9 40;law ease long=0;law cool 0;");
         x.sit(1, 0);
         x.go(1);
@@ -195,6 +207,7 @@ public final class AnswersTest {
         DUE.same("all three", 3, x.game(0, 79, 1));
         DUE.same("two may be added", 2, x.game(0, 66, 1));
         DUE.same("one may be added", 1, x.game(0, 65, 1));
+        DUE.same("by one he wins", 0, x.game(0, 65, 0));
         DUE.same("none may be added", 1, x.game(0, 49, 0));
         DUE.same("0 degrees, and it is", 1, x.game(0, 0, 0));
         DUE.same("108 may be added", 1, x.game(0, 98, 0));
@@ -222,6 +235,10 @@ public final class AnswersTest {
         DUE.same("no such tub", NONE, x.tells(5));
         DUE.same("tub below 0", NONE, x.tells(-1));
         DUE.same("no knights", 0, Due.told("tub t 9 9;").tells(0));
+        x = Due.told("knight a 9 0;knight b 9 1;tub t 9 9;law ease long=0 and rank;");
+        x.sit(1, 0);
+        x.go(1);
+        DUE.same("long 0 though he is in it", 1, x.tells(0));
     }
 
     private static void restsOf(int one, int other, int... due) {
@@ -238,6 +255,8 @@ public final class AnswersTest {
         restsOf(0, 0, 1, 10);
         restsOf(3, 3, 0, 1, 10);
         restsOf(9, 9, 0);
+        restsOf(4, 4, 0);
+        restsOf(2, 2, 1, 10);
         restsOf(0, 9, 10);
         restsOf(9, 0, 1);
         restsOf(6, 3, 0, 1);
@@ -367,6 +386,9 @@ public final class AnswersTest {
         x = Due.told("knight k 20 0;tub t 10 99;sit k t 59;law ease bears>40 or minute<59;law cool 0;");
         DUE.same("behind 60", 60, x.ask(0, 0));
         DUE.same("5 are left", 5, x.ask(0, 1));
+        x = Due.told("knight k 20 0;tub t 10 50;sit k t 0;law cool 0;");
+        DUE.same("behind 1", 1, x.ask(0, 0));
+        DUE.same("5 are left behind 1", 5, x.ask(0, 1));
     }
 
     private static void chance() {
@@ -374,6 +396,7 @@ public final class AnswersTest {
         String text = "knight k 0 0;knight l 0 0;tub t 10 99;sit k t 0;law cool 0;seed 77;flinch ";
         BathOrders x = Due.told(text + "50;");
         DUE.same("three are not below 50", 3, x.chance(1, 1, 0));
+        DUE.yes("from seed 0 on the first one is 0", x.chance(0, 1, 0) >= 0 && x.chance(0, 1, 0) < 10);
         DUE.same("once more", 3, x.chance(1, 1, 0));
         DUE.same("never in a tub", 0, x.chance(1, 1, 1));
         DUE.same("nothing went by", 0, x.count(6));
@@ -419,6 +442,7 @@ public final class AnswersTest {
         x = Due.told("knight k 60 0;tub t 10 62;sit k t 0;law cool 30;");
         DUE.same("it cools", 9, x.tried(0, 0, 9));
         DUE.same("nothing cools", 0, x.tried(4, 0, 9));
+        DUE.same("200 minutes", 200, x.tried(0, 0, 200));
         DUE.same("what below 0", NONE, x.tried(-1, 0, 1));
         DUE.same("no such what", NONE, x.tried(5, 0, 1));
         DUE.same("n below 0", NONE, x.tried(0, 0, -1));

@@ -166,6 +166,9 @@ public final class MinutesTest {
         x.go(5);
         knight("nobody flinches", x, 0, 0, 0, 0, 5, 0, 5, 0);
         DUE.same("sent off out of one's own tub", 3, x.count(11));
+        Due.tell(x, "knight k 0 0;tub t 10 99;law cool 0;sit k t 0;flinch 1;");
+        x.go(1);
+        knight("0 is below 1, the seed is 0 again", x, 0, 0, 0, -2, 0, 0, 0, 1);
         x = Due.told(text + "100;");
         x.go(5);
         knight("all flinch", x, 0, 0, 0, -2, 0, 0, 0, 4);
@@ -206,6 +209,17 @@ public final class MinutesTest {
         value(1, "not not 5");
         value(0, "not 5");
         value(1, "2 and 3");
+        value(0, "2 and 0");
+        value(0, "0 and 2");
+        value(0, "0 or 0");
+        value(1, "1=1");
+        value(0, "1=2");
+        value(1, "2<>1");
+        value(0, "2<=1");
+        value(0, "1>=2");
+        value(1, "2>1");
+        value(1, "((((((((0+1))))))))");
+        value(1, "1<2 and (1<2)=(3<4)");
         value(1, "0 or 0-4");
         value(2, "1+(2<3)");
         value(1, "1<1+1");
@@ -230,8 +244,13 @@ public final class MinutesTest {
         value(ERROR, "(9999*9999*9999)*(0-9999*9999*9999)");
         value(999700029999L, "9999*9999*9999");
         value(0, "0*(9999*9999*9999)");
-        BathOrders x = Due.told("knight k 7 3;tub t 11 52;tub u 11 0;law cool bears+rank+litres;law rise stood;");
-        DUE.same("cool looks at no knight", 11, x.law(0, -5, 1));
+        value(-1000000000000L, "(0-1000*1000)*(1000*1000)");
+        value(-1000000000000L, "1000*1000*(0-1000*1000)");
+        value(1000000000000L, "(0-1000*1000)*(0-1000*1000)");
+        value(ERROR, "1000*1000*(0-1000*1000-1)");
+        BathOrders x = Due.told("knight k 7 3;tub t 11 52;tub u 11 0;"
+            + "law cool bears+rank+stood+long+litres;law rise stood;");
+        DUE.same("cool looks at no such knight", 11, x.law(0, -5, 1));
         DUE.same("no such tub", ERROR, x.law(0, 0, 2));
         DUE.same("tub below 0", ERROR, x.law(0, 0, -1));
         DUE.same("no such law", ERROR, x.law(1, 0, 0));
@@ -241,6 +260,11 @@ public final class MinutesTest {
         x.sit(0, 1);
         x.go(3);
         DUE.same("stood by now", 3, x.law(2, 0, 0));
+        DUE.same("cool looks at no knight", 11, x.law(0, 0, 0));
+        Due.tell(x, "knight k 7 3;tub t 11 52;");
+        for (int what = 0; what < 3; what++) {
+            DUE.same("a law of the text before", ERROR, x.law(what, 0, 0));
+        }
     }
 
     private static void addAndPour() {
@@ -294,6 +318,12 @@ public final class MinutesTest {
         DUE.yes("rises", x.rise(0));
         knight("risen", x, 0, 99, 0, -2, 2, 494, 0);
         DUE.no("in none", x.rise(0));
+        DUE.yes("gets back", x.sit(0, 1));
+        DUE.same("both in tubs", 2, x.count(8));
+        DUE.yes("the other one rises out of the first tub", x.rise(1));
+        DUE.yes("rises again", x.rise(0));
+        DUE.same("nobody in tubs", 0, x.count(8));
+        DUE.yes("only the first one", x.sit(0, 0));
         DUE.no("no such knight", x.rise(2));
         DUE.no("knight below 0", x.rise(-1));
         DUE.same("in tubs", 1, x.count(8));
@@ -351,6 +381,7 @@ public final class MinutesTest {
         DUE.same("20 at most", 20, x.count(14));
         DUE.same("the latest", 19, x.undo());
         for (int i = 0; i < 19; i++) {
+            DUE.same("litres by undoing", 32 - i, Due.tub(x, 1, 0));
             x.undo();
         }
         DUE.same("3 stay", 13, Due.tub(x, 1, 0));

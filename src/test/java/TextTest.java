@@ -117,6 +117,9 @@ public final class TextTest {
         sound(1, "law cool (1)+(1)+(1)+(1)+(1)+(1)+(1)+(1)+(1);");
         sound(1, "law cool not not 1<2 and(not 3)or heat<>bears;");
         sound(1, "law cool 1<(2<3);");
+        sound(2, "law cool 1<2;law ease 1<2;");
+        sound(1, "seed 0;");
+        sound(1, "law cool ((((((((1+1))))))));");
         sound(1, "law cool 1<2 or 2>=1 and 3>2;");
         sound(1, "law cool heat/litres*stood-rank+long=minute;");
     }
@@ -147,6 +150,9 @@ public final class TextTest {
         faulty(1, 5, "seed k;");
         faulty(1, 4, "sit law t 0;");
         faulty(1, 9, "tub t 1 1.;");
+        faulty(1, 10, "tub t 1 1;\0");
+        faulty(1, 10, "tub t 1 1;\t");
+        faulty(1, 10, "tub t 1 1;\r\n");
     }
 
     private static void strayInLaws() {
