@@ -17,7 +17,7 @@ public final class BathOrders {
     private static final int MOST_DEGREES = 99;
     private static final int MOST_GOING = 200;
     private static final int MOST_AHEAD = 199;
-    private static final int LAST_START = 9800;
+    private static final int LAST_MINUTE = 9800;
     private static final int CAN_HEAT = 990;
     private static final int MOST_FACTS = 24;
     private static final int MOST_SEEN = 60;
@@ -206,7 +206,7 @@ public final class BathOrders {
     }
 
     public int go(int n) {
-        if (n < 0 || n > MOST_GOING || now.minute > LAST_START) {
+        if (n < 0 || n > MOST_GOING || now.minute + n > LAST_MINUTE) {
             return NONE;
         }
         minutes.drawn();

@@ -337,17 +337,35 @@ public final class MinutesTest {
         for (int i = 1; i <= 49; i++) {
             DUE.same("go 200", 200 * i, x.go(200));
         }
-        DUE.same("from 9800", 9801, x.go(1));
         DUE.same("behind 9800", NONE, x.go(1));
-        DUE.same("no minute behind 9800", NONE, x.go(0));
-        DUE.same("the minute", 9801, x.count(6));
-        x = Due.told("knight k 99 0;tub t 10 0;sit k t 0;");
-        for (int i = 1; i <= 50; i++) {
+        DUE.same("far behind 9800", NONE, x.go(200));
+        DUE.same("none goes by", 9800, x.count(6));
+        DUE.same("no minute at 9800", 9800, x.go(0));
+        DUE.same("no such number at 9800", NONE, x.go(-1));
+        DUE.same("stood", 9800, x.knight(0, 3));
+        DUE.same("stood at most", 9999, x.ahead(200, 2, 0));
+        goOverTheLast();
+    }
+
+    private static void goOverTheLast() {
+        BathOrders x = Due.told("knight k 99 0;tub t 10 50;tub u 10 50;sit k t 0;");
+        for (int i = 1; i <= 48; i++) {
             x.go(200);
         }
-        DUE.same("10000 minutes", 10000, x.count(6));
-        DUE.same("stood at most", 9999, x.knight(0, 3));
-        DUE.same("in it for all", 10000, x.knight(0, 5));
+        x.go(99);
+        x.add(1, 5);
+        x.rise(0);
+        DUE.same("would be 9801", NONE, x.go(102));
+        DUE.same("the minute stays", 9699, x.count(6));
+        DUE.same("stood stays", 9699, x.knight(0, 3));
+        DUE.same("to be undone yet", 2, x.count(14));
+        DUE.same("a new minute is not by", 1, x.undo());
+        DUE.same("he is in it for as long", 9699, x.knight(0, 5));
+        DUE.same("right at 9800", 9800, x.go(101));
+        DUE.same("one more", NONE, x.go(1));
+        DUE.same("an image of it", 9800, x.keep());
+        DUE.same("the image", 9800, x.back());
+        DUE.same("and none behind it", NONE, x.go(2));
     }
 
     private static void undo() {

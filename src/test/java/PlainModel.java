@@ -718,7 +718,7 @@ final class PlainModel {
     }
 
     int go(int n) {
-        if (n < 0 || n > 200 || now.minute > 9800) {
+        if (n < 0 || n > 200 || now.minute + n > 9800) {
             return -1;
         }
         now.go(n, Way.DRAWN, -1);
