@@ -341,6 +341,23 @@ public final class AnswersTest {
         DUE.same("24 facts", 24, x.count(12));
         DUE.same("borne by no such knight", NONE, x.borne(1));
         DUE.same("borne below 0", NONE, x.borne(-1));
+        lastFactStrikes();
+    }
+
+    private static void lastFactStrikes() {
+        BathOrders x = Due.told("knight k 20 0;tub t 10 50;sit k t 0;law cool 0;");
+        DUE.same("stood one minute", 0, x.see(1, 0, 1, true));
+        for (int i = 1; i < 23; i++) {
+            DUE.same("stood at least 0", i, x.see(60, 0, 0, true));
+        }
+        DUE.same("50 at least", 1023 - 31, x.borne(0));
+        DUE.same("the last one strikes", 23, x.strike(0));
+        DUE.same("any", 1023, x.borne(0));
+        DUE.yes("all but the last one", x.known(23));
+        DUE.same("50 at least again", 1023 - 31, x.borne(0));
+        DUE.yes("known by 24", x.known(24));
+        DUE.same("any again", 1023, x.borne(0));
+        DUE.no("known by 25", x.known(25));
     }
 
     private static void factsOfOthers() {

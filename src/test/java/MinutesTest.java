@@ -248,6 +248,11 @@ public final class MinutesTest {
         value(-1000000000000L, "1000*1000*(0-1000*1000)");
         value(1000000000000L, "(0-1000*1000)*(0-1000*1000)");
         value(ERROR, "1000*1000*(0-1000*1000-1)");
+        // 2 to the 64, of which the longs would leave 0.
+        value(ERROR, "4096*1024*1024*(4096*1024*1024)");
+        value(ERROR, "4096*1024*1024*(0-4096*1024*1024)");
+        value(ERROR, "(0-4096*1024*1024)*(4096*1024*1024)");
+        value(ERROR, "(0-4096*1024*1024)*(0-4096*1024*1024)");
         BathOrders x = Due.told("knight k 7 3;tub t 11 52;tub u 11 0;"
             + "law cool bears+rank+stood+long+litres;law rise stood;");
         DUE.same("cool looks at no such knight", 11, x.law(0, -5, 1));

@@ -203,6 +203,12 @@ public final class TextTest {
         faulty(2, 33 + 120, two + "sit k t 0;".repeat(12) + "sit");
         faulty(2, 33 + 100, two + "can t 1 0;".repeat(10) + "can");
         faulty(2, 33 + 88, two + "pipe t u 1;".repeat(8) + "pipe");
+        faulty(2, 33 + 8, two + "sit k t 100;");
+        faulty(2, 33 + 6, two + "can t 0 0;");
+        faulty(2, 33 + 6, two + "can t 10 0;");
+        faulty(2, 33 + 8, two + "can t 1 100;");
+        faulty(2, 33 + 9, two + "pipe t u 0;");
+        faulty(2, 33 + 9, two + "pipe t u 10;");
         sound(15, two + "sit k t 0;".repeat(12));
         sound(13, two + "can t 1 0;".repeat(10));
         sound(11, two + "pipe t u 1;".repeat(8));
@@ -245,6 +251,11 @@ public final class TextTest {
         sound(2, first + "law rise 1;");
         faulty(2, first.length() + 10, first + "law rise 1+1;");
         DUE.same("knots of two laws", 64, Due.told(first + "law rise 1;").count(5));
+        // As many signs as may be wait at once, brackets among them.
+        String waiting = "law cool " + "(not not not ".repeat(8) + "not ".repeat(39);
+        sound(1, waiting + "1" + ")".repeat(8) + ";");
+        faulty(2, waiting.length() + 4, waiting + "not 1" + ")".repeat(8) + ";");
+        faulty(1, waiting.length() + 8, waiting + "1" + ")".repeat(7) + ";");
         DUE.same("brackets are none", 3, Due.told("law cool ((1)+(2));").count(5));
     }
 
