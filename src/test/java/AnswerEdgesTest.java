@@ -433,6 +433,13 @@ public final class AnswerEdgesTest {
             EDGES.same("all at ease of " + i, 0, x.tells(1));
             EDGES.same("nobody at ease of " + i, 0, x.tells(2));
         }
+        EDGES.sentence("whether they are AT EASE in it now (as in MATCH) as of the most others");
+        BathOrders in = Due.told("knight a 9 0;knight b 9 0;knight c 9 1;tub t 9 9;law ease long=0 and (rank or stood<2);flinch 0;");
+        in.sit(0, 0);
+        in.go(1);
+        EDGES.same("in it for 1, as if in none", 0, in.tells(0));
+        in.go(1);
+        EDGES.same("stood 2", 1, in.tells(0));
         EDGES.promise(24);
         EDGES.sentence("NONE: no such TUB.");
         BathOrders x = Due.told(text.toString());

@@ -21,6 +21,7 @@ public final class AnswersTest {
         chance();
         tried();
         asksChangeNothing();
+        asksBehindAsks();
         DUE.end();
     }
 
@@ -468,6 +469,38 @@ public final class AnswersTest {
         DUE.same("i below 0", NONE, x.tried(4, -1, 1));
         DUE.same("no such knight", NONE, x.tried(2, 1, 1));
         DUE.same("knight below 0", NONE, x.tried(2, -1, 1));
+    }
+
+    private static long asked(BathOrders x, int question) {
+        return switch (question) {
+            case 0 -> x.ahead(9, 2, 0);
+            case 1 -> x.cools(1, 60);
+            case 2 -> x.flinches(1);
+            case 3 -> x.borne(1);
+            case 4 -> x.ask(0, 1) + 100 * x.ask(0, 0);
+            case 5 -> x.ask(1, 1) + 100 * x.ask(1, 0);
+            case 6 -> x.chance(4, 5, 1);
+            case 7 -> x.match(7);
+            case 8 -> x.tried(0, 0, 9);
+            case 9 -> x.tried(1, 0, 9);
+            case 10 -> x.tried(2, 1, 9);
+            case 11 -> x.tried(3, 0, 9);
+            case 12 -> x.tried(4, 0, 9);
+            default -> x.go(1) + 10000L * x.count(9) + 1000000L * Due.tub(x, 0, 1);
+        };
+    }
+
+    /** What one question leaves behind is nothing to the next one, nor to a minute. */
+    private static void asksBehindAsks() {
+        String text = "knight a 40 3;knight b 60 5;tub t 10 50;tub u 20 62;sit a t 0;sit b u 0;sit b u 3;can t 5 1;pipe t u 2;"
+            + "flinch 50;seed 3;law rise 1;";
+        for (int first = 0; first < 13; first++) {
+            for (int second = 0; second < 14; second++) {
+                BathOrders x = Due.told(text);
+                asked(x, first);
+                DUE.same("question " + second + " behind " + first, asked(Due.told(text), second), asked(x, second));
+            }
+        }
     }
 
     private static void asksChangeNothing() {

@@ -163,6 +163,13 @@ public final class FactEdgesTest {
         x.see(1, 0, 1, false);
         EDGES.same("none", 1, x.ask(0, 0));
         EDGES.same("none left", 0, x.ask(0, 1));
+        // In another tub than the first one, and all of them in it.
+        BathOrders second = Due.told("knight k 20 0;tub t 10 0;tub u 10 50;sit k u 6;law cool 0;");
+        EDGES.same("in the second tub", 7, second.ask(0, 0));
+        EDGES.same("left by the second tub", 5, second.ask(0, 1));
+        BathOrders every = Due.told("knight k 20 0;tub t 10 0;sit k t 0;law cool 0;");
+        EDGES.same("all are in it", 1, every.ask(0, 0));
+        EDGES.same("all are left by it", 10, every.ask(0, 1));
         BathOrders one = Due.told("knight k 20 0;tub t 10 90;sit k t 0;law cool 0;");
         one.see(1, 0, 1, true);
         EDGES.same("one", 1, one.ask(0, 0));
@@ -313,6 +320,8 @@ public final class FactEdgesTest {
         BathOrders late = Due.told("knight k 99 0;tub t 9 90;sit k t 98;");
         EDGES.same("98 minutes", 0, late.chance(0, 98, 0));
         EDGES.same("99 minutes", 10, late.chance(0, 99, 0));
+        BathOrders sixth = Due.told("knight k 99 0;tub a 9 9;tub b 9 9;tub c 9 9;tub d 9 9;tub e 9 9;tub f 9 9;sit k f 0;");
+        EDGES.same("in the sixth tub", 10, sixth.chance(0, 1, 0));
         EDGES.sentence("NONE: no such ones.");
         for (int far : FAR) {
             EDGES.refused("n " + far, NONE, State::busy, y -> y.chance(1, far, 0));

@@ -445,6 +445,19 @@ public final class MinuteEdgesTest {
         value(ERROR, "1/0 or 1");
         value(ERROR, "not (1/0)");
         value(ERROR, "1/0=1/0");
+        String[] comparisons = {"<", "<=", "=", "<>", ">=", ">"};
+        int[] ofLess = {1, 1, 0, 1, 0, 0};
+        int[] ofEqual = {0, 1, 1, 0, 1, 0};
+        int[] ofMore = {0, 0, 0, 1, 1, 1};
+        for (int i = 0; i < comparisons.length; i++) {
+            value(ofLess[i], "6" + comparisons[i] + "bears");
+            value(ofEqual[i], "7" + comparisons[i] + "bears");
+            value(ofMore[i], "8" + comparisons[i] + "bears");
+            value(ofLess[i], "0-1" + comparisons[i] + "0");
+        }
+        value(1, "1 and not 0");
+        value(0, "1 and not not 0");
+        value(1, "0 or not 0 and not 0");
         value(3, "(1<2)+(2>1)+(1<>2)");
         value(0, "(1>2)+(2<1)+(1=2)+(2<=1)+(1>=2)+(1<>1)");
         EDGES.sentence("/ is cut towards 0");
@@ -473,6 +486,14 @@ public final class MinuteEdgesTest {
         value(ERROR, "(" + twelve + "*2)/2");
         value(0, twelve + "-" + twelve);
         value(most, twelve + "*1");
+        value(-most, twelve + "*(0-1)");
+        value(-most, "(0-1)*(" + twelve + ")");
+        value(most, "(0-1)*(0-" + twelve + ")");
+        value(-5, "(0-1)*5");
+        value(5, "1*5");
+        value(0, "0*5");
+        value(0, "5*0");
+        value(0, "(0-1)*0");
         value(most - 1, twelve + "-1");
         value(-most, "1000*1000*(0-1000*1000)");
         value(-most, "(0-1000*1000)*(1000*1000)");
@@ -484,8 +505,28 @@ public final class MinuteEdgesTest {
         value(ERROR, "(4096*1024*1024)*(4096*1024*1024)");
         value(ERROR, "(4096*1024*1024)*(2048*1024*1024)");
         value(ERROR, "(0-4096*1024*1024)*(2048*1024*1024)");
+        for (int bits = 0; bits <= 39; bits++) {
+            value(1L << bits, power(bits));
+            value(-(1L << bits), "0-" + power(bits));
+        }
+        value(ERROR, power(40));
+        value(ERROR, "0-" + power(40));
+        for (int low = 24; low <= 39; low++) {
+            value(ERROR, power(low) + "*(" + power(64 - low) + ")");
+            value(ERROR, "(0-" + power(low) + ")*(" + power(64 - low) + ")");
+            value(ERROR, power(low) + "*(" + power(65 - low) + ")");
+        }
         value(ERROR, twelve + "*(" + twelve + ")");
         value(ERROR, "(0-" + twelve + ")*(" + twelve + ")");
+    }
+
+    /** A power of two as a product of what may stand in a law. */
+    private static String power(int bits) {
+        StringBuilder text = new StringBuilder("1");
+        for (int left = bits; left > 0; left -= 12) {
+            text.append('*').append(1 << Math.min(12, left));
+        }
+        return text.toString();
     }
 
     private static void numbers() {

@@ -1,7 +1,7 @@
 /** What can be asked of an object, as one text, to see whether two are alike. */
 final class State {
     /** Of an object that changes of all calls; the tape, the image and what can be undone with it. */
-    private static final String BUSY = "knight a 40 5;knight b 60 2;tub t 10 50;tub u 20 70;sit a t 0;sit b u 1;"
+    private static final String BUSY = "knight a 40 5;knight b 80 2;tub t 10 50;tub u 20 70;sit a t 0;sit b u 1;"
         + "sit a u 3;sit a t 6;sit b t 7;sit a t 8;sit b u 9;can u 5 7;pipe t u 1;flinch 50;seed 7;law rise 2-rank/4;";
 
     private State() {

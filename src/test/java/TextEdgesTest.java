@@ -118,6 +118,7 @@ public final class TextEdgesTest {
         EDGES.sentence("B: not B | C.");
         sound(1, "law cool not not not 1;");
         sound(1, "law cool (not 1)+1;");
+        sound(1, "law cool 1+(not 1)<(not not 1);");
         sound(1, "law cool 1 and not 1 or not 1;");
         for (String sign : new String[] {"<", "<=", "=", "<>", ">=", ">", "+", "-", "*", "/"}) {
             faulty(1, 10 + sign.length(), "law cool 1" + sign + "not 1;");
@@ -125,6 +126,7 @@ public final class TextEdgesTest {
         EDGES.sentence("C: S [ ( < | <= | = | <> | >= | > ) S ].");
         sound(1, "law cool 1<2 and 1<2 or not 1<2;");
         sound(1, "law cool (1<2)<(1<2);");
+        sound(3, "law cool 1<2;law ease 1<2;law rise (1)<2;");
         faulty(1, 12, "law cool 1<2<3;");
         faulty(1, 14, "law cool 1<2+3=4;");
         faulty(1, 16, "law cool not 1<2>3;");
@@ -413,6 +415,9 @@ public final class TextEdgesTest {
         EDGES.sentence("3 told already: a name of its kind (at W)");
         faulty(3, 20, "knight k 0 0;knight k 0 0;");
         faulty(3, 33, "knight k 0 0;knight l 0 0;knight k");
+        faulty(3, 33, "knight k 0 0;knight l 0 0;knight l");
+        faulty(3, 24, "tub t 1 0;tub u 1 0;tub u 1 0;");
+        faulty(3, 64, "tub a 1 0;tub b 1 0;tub c 1 0;tub d 1 0;tub e 1 0;seed 77;  tub e 1 0;");
         faulty(3, 14, "tub t 1 0;tub t 1 0;");
         faulty(3, 35, "knight abcdef 0 0;tub t 1 0;knight abcdef 0 0;");
         sound(2, "knight abcdef 0 0;knight abcde 0 0;");
@@ -533,6 +538,7 @@ public final class TextEdgesTest {
         EDGES.same("nothing to undo", NONE, facts.undo());
         EDGES.same("facts from 0 on", 0, facts.see(1, 0, 5, true));
         EDGES.same("all known", 0, facts.borne(0));
+        textsBehindTexts();
         EDGES.sentence("how many LINES");
         sound(0, "\n");
         sound(1, "seed 1;");
@@ -549,6 +555,42 @@ public final class TextEdgesTest {
         sound(47, most + " ".repeat(700 - most.length()));
         sound(1, " ".repeat(693) + "seed 1;");
         faulty(1, 700, " ".repeat(694) + "seed 1");
+    }
+
+    /** Nothing of an earlier text, sound or not, is left in a later one, be it the third or the fourth. */
+    private static void textsBehindTexts() {
+        String most = "tub t 9 50;knight k 60 5;law ease 1" + "+1".repeat(20) + ";law rise 1+1<3;law cool not not not 1"
+            + "+1".repeat(7) + ";";
+        String[] texts = {most, "tub a 1 1;tub b 1 1;knight z 99 9;sit z b 0;pipe a b 9;can a 9 1;flinch 30;seed 5;law cool 3;",
+            most, "law cool 1<2 or ((1+", "law cool ((((((((1 ", most, "law ease not not 1<", "flinch 20;seed 6;knight k 1 1;tub t 1 1;law rise 1;",
+            "knight k 70 3;tub t 9 65;sit k t 0;can t 1 1;", "seed 99999;knight k 1 1;flinch", "law cool 1<2;law ease 2<1;",
+            "knight k 0 0;tub t 9 99;sit k t 0;flinch 50;law cool (1<2)+(not 0);"};
+        String last = "knight k 0 0;tub t 9 99;flinch 50;sit k t 0;sit k t 1;sit k t 2;sit k t 3;sit k t 4;sit k t 5;";
+        for (int first = 0; first < texts.length; first++) {
+            BathOrders x = new BathOrders();
+            for (int i = 0; i < 5; i++) {
+                String text = texts[(first + i) % texts.length];
+                BathOrders alone = new BathOrders();
+                EDGES.same("told behind others: " + text, Due.tell(alone, text), Due.tell(x, text));
+                if (alone.fault(0) == 0) {
+                    EDGES.alike("behind others as alone: " + text, State.of(alone), State.of(x));
+                    EDGES.same("ease behind others: " + text, alone.law(1, 0, 0), x.law(1, 0, 0));
+                    EDGES.same("rise behind others: " + text, alone.law(2, 0, 0), x.law(2, 0, 0));
+                }
+                x.go(4);
+                x.keep();
+            }
+            Due.tell(x, last);
+            EDGES.alike("the last one as alone, later, too", State.later(Due.told(last)), State.later(x));
+        }
+        BathOrders full = Due.told(most);
+        for (int i = 0; i < 5; i++) {
+            EDGES.same("64 knots", 64, full.count(5));
+            EDGES.same("ease of 41 knots", 21, full.law(1, 0, 0));
+            EDGES.same("rise of 5 knots", 1, full.law(2, 0, 0));
+            EDGES.same("cool of the last 18 knots", 0, full.law(0, 0, 0));
+            Due.tell(full, most);
+        }
     }
 
     private static void textThatStays() {

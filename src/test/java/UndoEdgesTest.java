@@ -78,6 +78,7 @@ public final class UndoEdgesTest {
             EDGES.same("of " + many, most, x.count(14));
             for (int left = most - 1; left >= 0; left--) {
                 EDGES.same("left of " + many, left, x.undo());
+                EDGES.same("litres by it", 10 + many - most + left, Due.tub(x, 1, 0));
             }
             EDGES.same("no more of " + many, NONE, x.undo());
             EDGES.same("litres of " + many, 10 + many - most, Due.tub(x, 1, 0));
